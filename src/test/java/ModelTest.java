@@ -118,6 +118,7 @@ public final class ModelTest {
     private void call(int kind) {
         int i = name();
         int a = value();
+        int b = value();
         int t = tableOf();
         int x = step();
         int side = any(0, 1);
@@ -126,14 +127,14 @@ public final class ModelTest {
         int n = any(1, 9);
         switch (kind) {
             case 0: due("write(" + (x + 31) + ")", real.write(x + 31), model.write(x + 31)); break;
-            case 1: due("name", real.name(i, what), model.name(i, what)); break;
+            case 1: due("write(" + (x + 90) + ")", real.write(x + 90), model.write(x + 90)); break;
             case 2: if (random.nextInt(10) == 0) due("wipe()", real.wipe(), model.wipe()); break;
             case 3: due("fault()", real.fault(), model.fault()); break;
             case 4: due("lay()", real.lay(), model.lay()); break;
             case 5: due("name(" + i + "," + what + ")", real.name(i, what), model.name(i, what)); break;
             case 6: due("single(" + i + "," + a + ")", real.single(i, a), model.single(i, a)); break;
             case 7: due("table(" + t + "," + what + ")", real.table(t, what), model.table(t, what)); break;
-            case 8: due("pair(" + t + "," + a + "," + n + ")", real.pair(t, a, n), model.pair(t, a, n)); break;
+            case 8: due("pair(" + t + "," + a + "," + b + ")", real.pair(t, a, b), model.pair(t, a, b)); break;
             case 9: due("grow(" + i + "," + a + "," + x + ")", real.grow(i, a, x), model.grow(i, a, x)); break;
             case 10: due("choose(" + i + "," + a + ")", real.choose(i, a), model.choose(i, a)); break;
             case 11: due("total()", real.total(), model.total()); break;
