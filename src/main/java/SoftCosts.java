@@ -681,11 +681,11 @@ public final class SoftCosts {
 
         /** SUM of the SINGLE cost of VALUE b of NAME j and its PAIRS with what is chosen of NAMES below j and end. */
         int costBeside(Row choice, int end, int j, int b, int leftOut) {
-            int cost = singleCost(j, b);
+            int cost = costs.get(singleAt(j, b));
             for (int t = 0; t < tables; t++) {
-                int i = nameOn(t, LOWER);
-                if (nameOn(t, HIGHER) == j && i < end && t != leftOut) {
-                    cost = sum(cost, pairCost(t, choice.get(i), b));
+                int i = lowers.get(t);
+                if (highers.get(t) == j && i < end && t != leftOut) {
+                    cost = sum(cost, costs.get(pairAt(t, choice.get(i), b)));
                 }
             }
             return cost;
@@ -968,10 +968,14 @@ public final class SoftCosts {
             }
             for (int a = 0; a < costs.valuesOf(k); a++) {
                 if (k != fixedName || a == fixedValue) {
-                    choice.set(k, a);
-                    goOn(costs, k + 1, costs.sum(cost, costs.costBeside(choice, k, k, a, leftOut)));
+                    take(costs, k, a, cost);
                 }
             }
+        }
+
+        private void take(Costs costs, int k, int a, int cost) {
+            choice.set(k, a);
+            goOn(costs, k + 1, costs.sum(cost, costs.costBeside(choice, k, k, a, leftOut)));
         }
 
         private void note(Costs costs, int total) {
@@ -1045,23 +1049,32 @@ public final class SoftCosts {
             return tried;
         }
 
+        /** The NAMES below k have their VALUES, which cost so much. */
         private void goOn(Costs costs, int k, int cost) {
             if (k >= costs.names() || k >= MOST_NAMES) {
                 return;
             }
             for (int a = 0; a < costs.valuesOf(k); a++) {
-                choice.set(k, a);
-                tried++;
-                int partial = costs.sum(cost, costs.costBeside(choice, k, k, a, NOT_ONE));
-                int low = lowOf(costs, k, partial);
-                if (low < best && k + 1 == costs.names()) {
-                    best = low;
-                } else if (low < best) {
-                    goOn(costs, k + 1, partial);
-                }
+                tryValue(costs, k, a, cost);
             }
         }
 
+        private void tryValue(Costs costs, int k, int a, int cost) {
+            choice.set(k, a);
+            tried++;
+            int partial = costs.sum(cost, costs.costBeside(choice, k, k, a, NOT_ONE));
+            int low = lowOf(costs, k, partial);
+            if (low >= best) {
+                return;
+            }
+            if (k + 1 == costs.names()) {
+                best = low;
+            } else {
+                goOn(costs, k + 1, partial);
+            }
+        }
+
+        /** LOW of the partial CHOICE of the NAMES up to k, which costs so much itself. */
         private int lowOf(Costs costs, int k, int partial) {
             int low = partial;
             for (int j = k + 1; j < costs.names(); j++) {

@@ -33,6 +33,7 @@ public final class PromiseTest {
         faultOfTooMany();
         lay();
         layBoundsCosts();
+        layOfLess();
         name();
         single();
         table();
@@ -50,6 +51,7 @@ public final class PromiseTest {
         sweepDirectedAtTop();
         sweepArguments();
         settle();
+        settleAtMostTwenty();
         bound();
         undo();
         undoOfAll();
@@ -275,6 +277,34 @@ public final class PromiseTest {
         SoftCosts y = laid("t1;v2;u0,0,9;");
         due("TOP 1", y.single(0, 0), 1);
         due("TOP 1: SHUT", y.name(0, 2), 1);
+    }
+
+    private static void layOfLess() {
+        SoftCosts x = laid("t9;v4;v4;v4;u1,3,5;b0,1,3;b1,2,4;");
+        x.wipe();
+        tell(x, "v2;v2;b0,1,1;");
+        due("lay of less", x.lay(), 2);
+        singles("lay of less", x, 1, 0, 0);
+        pairs("lay of less", x, 0, 1, 0, 0, 1);
+        due("a TABLE that is gone", x.table(1, 0), BAD);
+        due("a PAIR that is gone", x.pair(1, 0, 0), BAD);
+        due("a VALUE that is gone", x.single(1, 3), BAD);
+        due("a NAME that is gone", x.single(2, 0), BAD);
+        due("choose of it", x.choose(2, 1), BAD);
+        due("grow of it", x.grow(2, 0, 1), BAD);
+        due("with it", x.with(2, 0), BAD);
+        due("best of it", x.best(2), BAD);
+        due("without a TABLE that is gone", x.without(1), BAD);
+        due("TOP that is gone", x.count(2), 20);
+        x.wipe();
+        tell(x, "v2;v2;v4;v4;b2,3,2;u2,3,7;v9;");
+        due("FAULT behind many", x.fault(), 26);
+        due("a NAME of a FAULT", x.single(2, 0), BAD);
+        x.wipe();
+        tell(x, "v2;");
+        due("lay behind a FAULT", x.lay(), 1);
+        due("a NAME that never was laid", x.single(2, 3), BAD);
+        due("one of its own", x.single(0, 1), 0);
     }
 
     private static void name() {
@@ -589,6 +619,20 @@ public final class PromiseTest {
         due("no change by these", x.count(5), 2);
     }
 
+    /** Found by a search: sweeps of arcs change something 22 times here. */
+    private static void settleAtMostTwenty() {
+        SoftCosts x = laid("t24;v4;v3;v3;v3;v3;v3;b2,3,3;b1,4,1;b2,5,4;b0,1,1;b0,5,5;b3,4,17;b2,4,0;b1,5,24;b4,5,24;"
+            + "c7,1,2,14;c4,2,0,15;c4,3,0,1;c5,1,2,1;c0,1,0,24;c5,2,1,1;c2,0,1,2;c2,1,0,1;c8,0,0,0;c8,0,1,2;c4,0,1,4;");
+        int[][] more = {{3, 2, 8}, {1, 2, 16}, {4, 0, 7}, {5, 0, 2}, {2, 1, 1}, {5, 1, 24}, {1, 0, 18}, {5, 2, 1},
+            {0, 0, 17}, {4, 2, 2}, {0, 1, 22}, {2, 2, 15}, {0, 3, 19}};
+        for (int[] m : more) {
+            x.grow(m[0], m[1], m[2]);
+        }
+        due("settle in 20", x.settle(1), 20);
+        due("settle of what is left", x.settle(1), 2);
+        due("settle of nothing", x.settle(1), 0);
+    }
+
     private static void bound() {
         SoftCosts x = laid(SLOPE);
         due("bound(0)", x.bound(0), 2);
@@ -598,6 +642,8 @@ public final class PromiseTest {
         singles("bound changes nothing", x, 1, 2, 5);
         due("bound is no change", x.undo(), NO);
         due("bound of three sweeps", laid(LATE).bound(1), 3);
+        x.grow(1, 0, 1);
+        due("bound of costs as they are now", x.bound(0), 3);
         due("bound(3)", x.bound(3), BAD);
         due("bound(-1)", x.bound(-1), BAD);
         due("bound(deep)", x.bound(DEEP), BAD);
@@ -756,7 +802,14 @@ public final class PromiseTest {
         due("tries that are left", laid("v2;v2;b0,1,3;c0,0,1,4;c0,1,0,3;c0,1,1,9;").tries(), 4);
         // LOW counts the least of each NAME behind, also of the one after the next
         due("tries with LOW of all NAMES", laid("t4;v2;v2;v2;u0,0,1;u0,1,1;u1,0,1;u1,1,1;u2,0,2;u2,1,2;").tries(), 2);
-        due("TRIES of six", laid("t99;v4;v4;v4;v4;v4;v4;").tries(), 24);
+        due("tries of six", laid("t99;v4;v4;v4;v4;v4;v4;").tries(), 24);
+        SoftCosts x = laid(TWO);
+        x.tries();
+        due("tries again", x.tries(), 6);
+        // the CONSTANT counts: with it no LOW is below TOP
+        SoftCosts y = laid("t3;v2;v2;u0,0,3;u0,1,3;");
+        y.raise(0, 3);
+        due("tries with the CONSTANT", y.tries(), 2);
     }
 
     private static void count() {
