@@ -84,6 +84,21 @@ public final class EdgesBestTest extends Edges {
         leaves(() -> laid(TWO), "best(0)", y -> y.best(0), 1);
     }
 
+    @Says("NONE: none is below TOP.")
+    static void promise20_whatWasAskedAheadDoesNotCount() {
+        SoftCosts x = laid(TWO);
+        due("best", x.best(-1), 1);
+        due("best again", x.best(-2), 1);
+        x.grow(0, 0, 99);
+        x.grow(0, 1, 99);
+        due("best of none", x.best(-1), NONE);
+        due("how many", x.best(-2), NONE);
+        due("its VALUE", x.best(0), NONE);
+        x.undo();
+        due("best behind undo", x.best(-1), 1);
+        due("its VALUE behind undo", x.best(0), 1);
+    }
+
     // ---- 21 next
 
     @Says("The least TOTAL of CHOICES that is above that of BEST and below TOP (what = 0)")
@@ -111,6 +126,14 @@ public final class EdgesBestTest extends Edges {
         due("one below TOP counts, TOP not", costing(9, 3, 8, 9).next(1), 2);
         due("one", costing(9, 3, 9).next(1), 1);
         due("none: 0, not NONE", hopeless().next(1), 0);
+        SoftCosts x = laid(TWO);
+        due("asked once", x.next(1), 4);
+        due("asked twice", x.next(1), 4);
+        x.grow(0, 0, 99);
+        due("behind grow", x.next(1), 2);
+        due("the next behind grow", x.next(0), 5);
+        x.grow(1, 1, 99);
+        due("no next", x.next(0), NONE);
         due("all of six NAMES", laid("t1;v4;v4;v4;v4;v4;v4;").next(1), 4096);
     }
 
@@ -154,6 +177,12 @@ public final class EdgesBestTest extends Edges {
     static void promise22_noBest() {
         due("hopeless", hopeless().backbone(), NONE);
         due("all are TOP", costing(1, 1, 1).backbone(), NONE);
+        SoftCosts x = costing(9, 3, 4);
+        due("one", x.backbone(), 1);
+        x.grow(0, 0, 9);
+        due("another one", x.backbone(), 2);
+        x.grow(0, 1, 9);
+        due("no more", x.backbone(), NONE);
         leaves(Edges::hopeless, "backbone", SoftCosts::backbone, NONE);
         leaves(() -> laid(TWO), "backbone", SoftCosts::backbone, 18);
     }
@@ -179,6 +208,7 @@ public final class EdgesBestTest extends Edges {
         due("by PAIRS", x.with(0, 0), NONE);
         due("of the other NAME", x.with(1, 1), NONE);
         due("with one that may be", x.with(1, 0), 0);
+        due("of none behind one", x.with(0, 0), NONE);
         due("where there is none at all", hopeless().with(1, 1), NONE);
     }
 
@@ -211,6 +241,9 @@ public final class EdgesBestTest extends Edges {
         due("TOP", laid("t5;v2;v2;u0,0,5;u0,1,5;b0,1,5;").without(0), NONE);
         SoftCosts x = laid("t2;v2;v2;v2;b0,1,2;c0,0,1,2;c0,1,0,2;b1,2,2;c1,0,1,2;c1,1,0,2;");
         due("by another TABLE", x.without(0), NONE);
+        SoftCosts y = laid("t2;v2;v2;v2;b0,1,2;c0,0,1,2;c0,1,0,2;b1,2,0;");
+        due("one", y.without(0), 0);
+        due("none behind one", y.without(1), NONE);
         due("where there is none at all", hopeless().without(0), NONE);
     }
 
@@ -310,6 +343,11 @@ public final class EdgesBestTest extends Edges {
         x.raise(0, 5);
         due("all", x.count(4), 6);
         due("none", laid("t5;v2;v2;u0,0,4;").count(4), 0);
+        SoftCosts y = laid("v4;v4;v4;");
+        y.wipe();
+        told(y, "t3;v2;u0,0,3;u0,1,3;").lay();
+        y.raise(0, 3);
+        due("of NAMES that there are", y.count(4), 2);
     }
 
     @Says("5 changes that can be UNDONE,")

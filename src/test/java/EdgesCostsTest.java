@@ -128,15 +128,26 @@ public final class EdgesCostsTest extends Edges {
         SoftCosts x = laid("t9;v2;v3;b0,1,5;c0,0,1,6;c0,0,2,7;c0,1,0,8;c0,1,2,4;");
         due("the least is the last", x.table(0, 2), 4);
         due("the greatest is between", x.table(0, 3), 8);
-        SoftCosts y = laid("t9;v3;v2;b0,1,3;c0,0,1,6;c0,1,0,7;c0,2,0,5;c0,2,1,8;");
+        SoftCosts y = laid("t9;v3;v2;b0,1,3;c0,0,1,6;c0,1,0,7;c0,1,1,4;c0,2,0,5;c0,2,1,8;");
         due("the least is the first", y.table(0, 2), 3);
         due("the greatest is the last", y.table(0, 3), 8);
+        SoftCosts v = laid("t9;v2;v3;b0,1,5;c0,0,1,6;c0,0,2,7;c0,1,0,4;c0,1,2,8;");
+        due("the least begins a row", v.table(0, 2), 4);
+        due("the greatest ends the longer row", v.table(0, 3), 8);
         SoftCosts z = laid("t2;v2;v2;b0,1,2;c0,0,1,9;c0,1,0,2;");
         due("all are TOP: the least", z.table(0, 2), 2);
         due("all are TOP: the greatest", z.table(0, 3), 2);
         SoftCosts w = laid("v4;v4;b0,1,0;");
         due("all are 0: the least", w.table(0, 2), 0);
         due("all are 0: the greatest", w.table(0, 3), 0);
+    }
+
+    @Says("the least cost of a PAIR (2), the greatest (3).")
+    static void promise08_ofItsOwnPairsAlone() {
+        SoftCosts x = laid("v4;v4;v4;b0,1,1;b1,2,9;b0,2,2;");
+        due("the greatest ahead of greater ones", x.table(0, 3), 1);
+        due("the greatest between", x.table(1, 3), 9);
+        due("the greatest behind greater ones", x.table(2, 3), 2);
     }
 
     @Says("BAD.")

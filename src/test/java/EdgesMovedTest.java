@@ -93,6 +93,33 @@ public final class EdgesMovedTest extends Edges {
         due("CONSTANT", x.count(3), 0);
     }
 
+    @Says("PROJECTED from a TABLE to a VALUE of one of its NAMES:")
+    static void promise13_tablesOfFourValues() {
+        SoftCosts x = fours();
+        due("from the first row", x.project(1, 0, 0, 3), 3);
+        due("from the last row", x.project(1, 0, 3, 3), 3);
+        due("from the first column", x.project(1, 1, 1, 2), NO);
+        due("from another TABLE's last column", x.project(0, 1, 3, 2), 2);
+        pairs(x, 0, "3 2 2 0/2 3 2 0/2 2 3 0/2 2 2 1");
+        pairs(x, 1, "1 0 0 0/3 4 3 3/3 3 4 3/0 0 0 1");
+        pairs(x, 2, "5 4 4 4/4 5 4 4/4 4 5 4/4 4 4 5");
+        singles(x, 0, 3, 0, 0, 3);
+        singles(x, 1, 0, 0, 0, 2);
+        singles(x, 2, 0, 0, 0, 0);
+    }
+
+    /** Three TABLES of four VALUES each, all PAIRS costing 2, 3 and 4, those of like VALUES one more. */
+    private static SoftCosts fours() {
+        SoftCosts x = laid("t20;v4;v4;v4;b0,1,1;b0,2,1;b1,2,1;");
+        for (int t = 0; t < 3; t++) {
+            for (int a = 0; a < 4; a++) {
+                x.grow(x.table(t, 0), a, t + 2);
+                due("extend", x.extend(t, 0, a, t + 2), 0);
+            }
+        }
+        return x;
+    }
+
     @Says({"Costs are moved by x (1 to 99)", "BAD;"})
     static void promise13_by1To99() {
         due("by 1", laid(TABLE).project(0, 0, 0, 1), 2);
@@ -189,6 +216,22 @@ public final class EdgesMovedTest extends Edges {
         pairs(x, 0, "2 2/0 0");
         pairs(x, 1, "3 0/3 0");
         due("CONSTANT", x.count(3), 0);
+    }
+
+    @Says("EXTENDED from a VALUE of one of its NAMES to a TABLE:")
+    static void promise14_tablesOfFourValues() {
+        SoftCosts x = laid("t20;v4;v4;v4;u0,0,3;u0,1,5;u0,3,4;u2,0,2;u2,3,6;b0,1,1;b0,2,0;b1,2,1;");
+        due("to the first row", x.extend(1, 0, 0, 3), 0);
+        due("to the second row", x.extend(1, 0, 1, 5), 0);
+        due("to the last row", x.extend(1, 0, 3, 4), 0);
+        pairs(x, 1, "3 3 3 3/5 5 5 5/0 0 0 0/4 4 4 4");
+        due("to the first column", x.extend(1, 1, 0, 2), 0);
+        due("to the last column", x.extend(1, 1, 3, 6), 0);
+        pairs(x, 0, "1 0 0 0/0 1 0 0/0 0 1 0/0 0 0 1");
+        pairs(x, 1, "5 3 3 9/7 5 5 11/2 0 0 6/6 4 4 10");
+        pairs(x, 2, "1 0 0 0/0 1 0 0/0 0 1 0/0 0 0 1");
+        singles(x, 0, 0, 0, 0, 0);
+        singles(x, 2, 0, 0, 0, 0);
     }
 
     @Says({"Costs are moved by x (1 to 99)", "BAD;"})

@@ -134,6 +134,21 @@ public final class EdgesSweptTest extends Edges {
         pairs(x, 0, "0 0 1/0 0 0");
     }
 
+    @Says("then of each VALUE of I, then of J, 0 first:")
+    static void promise16_arcsOfFourValues() {
+        SoftCosts x = laid("t20;v4;v4;v4;b0,1,0;b0,2,0;c0,1,0,2;c0,2,0,2;c0,3,0,2;c1,0,0,2;c1,0,1,2;c1,0,2,2;c1,0,3,2;");
+        due("sweep", x.sweep(ARCS, 1), 0);
+        singles(x, 0, 2, 0, 0, 0);
+        singles(x, 1, 0, 0, 0, 0);
+        singles(x, 2, 0, 0, 0, 0);
+        pairs(x, 0, "0 0 0 0/2 0 0 0/2 0 0 0/2 0 0 0");
+        pairs(x, 1, "0 0 0 0/0 0 0 0/0 0 0 0/0 0 0 0");
+        SoftCosts y = laid("t20;v2;v4;b0,1,0;c0,1,3,4;c0,0,3,3;");
+        due("sweep", y.sweep(ARCS, 1), 0);
+        singles(y, 1, 0, 0, 0, 3);
+        pairs(y, 0, "0 0 0 0/0 0 0 1");
+    }
+
     @Says("of each TABLE, 0 first:")
     static void promise16_arcsGoByTablesTheFirstFirst() {
         SoftCosts x = laid("t5;v2;v2;v2;b0,1,0;b0,2,0;c0,0,0,5;c0,0,1,5;");
@@ -182,6 +197,18 @@ public final class EdgesSweptTest extends Edges {
         singles(y, 0, 0, 0);
         singles(y, 1, 2, 0);
         pairs(y, 1, "0 2/0 0");
+    }
+
+    @Says("of each TABLE, 0 first, whose higher NAME it is:")
+    static void promise16_directedEachTableOnce() {
+        // VALUE 1 of NAME 1 becomes TOP by TABLE 0, whose PAIRS with it stay as they are then
+        SoftCosts x = laid("t5;v2;v2;v2;b1,2,1;b0,1,0;u1,1,4;u2,0,4;");
+        due("sweep", x.sweep(DIRECTED, 1), 0);
+        singles(x, 0, 0, 0);
+        singles(x, 1, 0, 5);
+        singles(x, 2, 3, 0);
+        pairs(x, 0, "2 0/0 0");
+        pairs(x, 1, "0 5/0 5");
     }
 
     @Says("costs of PAIRS of which a VALUE has SINGLE cost TOP become TOP; P of a VALUE a of I:")
@@ -247,6 +274,30 @@ public final class EdgesSweptTest extends Edges {
         singles(y, 0, 0, 3, 1);
         singles(y, 1, 6, 0);
         pairs(y, 0, "2 0/0 0/1 0");
+    }
+
+    @Says("each b is EXTENDED by E (not, if that is 0), then each a PROJECTED by P (not, if that is 0), VALUES 0 first.")
+    static void promise16_directedNamesOfUnlikeSizes() {
+        SoftCosts x = laid("t20;v2;v4;u1,0,1;u1,1,1;u1,2,1;u1,3,1;b0,1,0;");
+        due("more VALUES b", x.sweep(DIRECTED, 1), 1);
+        singles(x, 1, 0, 0, 0, 0);
+        pairs(x, 0, "0 0 0 0/0 0 0 0");
+        // E of VALUE 1 is by the last VALUE a alone
+        SoftCosts y = laid("t20;v4;v2;u1,0,3;u1,1,5;b0,1,0;c0,0,1,5;c0,1,1,5;c0,2,1,5;c0,3,0,9;");
+        due("more VALUES a", y.sweep(DIRECTED, 1), 3);
+        singles(y, 0, 0, 0, 0, 2);
+        singles(y, 1, 0, 0);
+        pairs(y, 0, "0 7/0 7/0 7/7 0");
+    }
+
+    @Says("E of a VALUE b of J: the greatest, over VALUES a of I, of P of a less their PAIR's cost (0 at least);")
+    static void promise16_directedPOfAnotherTableIsForgotten() {
+        // P of VALUE 3 is 5 in TABLE 0; the lower NAME of TABLE 1 has no VALUE 3
+        SoftCosts x = laid("v3;v4;v2;b1,2,0;b0,1,0;c0,3,0,5;c0,3,1,5;");
+        due("sweep", x.sweep(DIRECTED, 1), 0);
+        singles(x, 0, 0, 0, 0);
+        singles(x, 1, 0, 0, 0, 5);
+        pairs(x, 1, "0 0 0 0/0 0 0 0/0 0 0 0");
     }
 
     @Says("Behind all a SWEEP of NODES.")
