@@ -492,8 +492,10 @@ public final class EdgesSweptTest extends Edges {
     static void promise18_twentyAtMost() {
         SoftCosts x = growing();
         due("bound", x.bound(ARCS), 22);
+        x.sweep(ARCS, 1);
+        due("bound behind one, which is that of 21", x.bound(ARCS), 22);
         x.sweep(ARCS, 9);
-        x.sweep(ARCS, 9);
+        x.sweep(ARCS, 8);
         due("behind 19", x.sweep(ARCS, 1), 21);
         due("behind 20", x.sweep(ARCS, 1), 22);
         due("behind 21", x.sweep(ARCS, 1), 22);
