@@ -179,22 +179,25 @@ abstract class Edges {
 
     /** TOTALS of all CHOICES, the first ones first; the CHOICE told is VALUE 0 of each then. */
     protected static String totals(SoftCosts x) {
-        int names = x.count(0);
-        int[] at = new int[names];
+        int[] sizes = new int[x.count(0)];
+        int[] at = new int[sizes.length];
+        for (int i = 0; i < sizes.length; i++) {
+            sizes[i] = x.name(i, 0);
+            x.choose(i, 0);
+        }
         StringBuilder s = new StringBuilder();
         int k = 0;
         while (k >= 0) {
-            for (int i = 0; i < names; i++) {
-                x.choose(i, at[i]);
-            }
             s.append(x.total()).append(' ');
-            k = names - 1;
-            while (k >= 0 && ++at[k] == x.name(k, 0)) {
-                at[k--] = 0;
+            // only what becomes another is chosen: an object has 512 calls
+            k = sizes.length - 1;
+            while (k >= 0 && at[k] == sizes[k] - 1) {
+                at[k] = 0;
+                x.choose(k--, 0);
             }
-        }
-        for (int i = 0; i < names; i++) {
-            x.choose(i, 0);
+            if (k >= 0) {
+                x.choose(k, ++at[k]);
+            }
         }
         return s.toString().trim();
     }

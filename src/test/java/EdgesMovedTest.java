@@ -406,24 +406,32 @@ public final class EdgesMovedTest extends Edges {
 
     @Says("A change: PROJECTED, EXTENDED, RAISED, SWEPT, SETTLED, a SINGLE cost that grows.")
     static void promise19_eachKindOfChange() {
+        SoftCosts x = changed(6);
+        for (int left = 5; left >= 0; left--) {
+            due("undo", x.undo(), left);
+            like("behind undo", picture(x), picture(changed(left)));
+            holds("change " + left + " changed a cost", !costs(changed(left + 1)).equals(costs(changed(left))));
+        }
+    }
+
+    /** The first of six changes, one of each kind. */
+    private static SoftCosts changed(int changes) {
         SoftCosts x = laid("t20;v2;v2;u0,0,3;u0,1,2;u1,0,2;u1,1,2;b0,1,4;c0,0,1,1;");
-        String[] ahead = new String[6];
-        ahead[0] = picture(x);
-        due("project", x.project(0, 0, 0, 1), 4);
-        ahead[1] = picture(x);
-        due("extend", x.extend(0, 1, 1, 1), 1);
-        ahead[2] = picture(x);
-        due("raise", x.raise(0, 1), 1);
-        ahead[3] = picture(x);
-        due("sweep", x.sweep(NODES, 1), 3);
-        ahead[4] = picture(x);
-        due("grow", x.grow(1, 1, 4), 4);
-        ahead[5] = picture(x);
-        due("settle", x.settle(DIRECTED), 1);
-        for (int k = 5; k >= 0; k--) {
-            holds("change " + k + " changed a cost", !picture(x).equals(ahead[k]));
-            due("undo", x.undo(), k);
-            like("behind undo of change " + k, picture(x), ahead[k]);
+        int[] want = {4, 1, 1, 3, 4, 1};
+        for (int k = 0; k < changes; k++) {
+            due("change " + k, changeOfKind(x, k), want[k]);
+        }
+        return x;
+    }
+
+    private static int changeOfKind(SoftCosts x, int kind) {
+        switch (kind) {
+            case 0: return x.project(0, 0, 0, 1);
+            case 1: return x.extend(0, 1, 1, 1);
+            case 2: return x.raise(0, 1);
+            case 3: return x.sweep(NODES, 1);
+            case 4: return x.grow(1, 1, 4);
+            default: return x.settle(DIRECTED);
         }
     }
 

@@ -11,7 +11,8 @@ import java.util.regex.Pattern;
 public final class EdgesQuotedTest {
     private static final Path DOCUMENT = Path.of("../shared/DOC.md");
     private static final Class<?>[] TESTS =
-        {EdgesToldTest.class, EdgesCostsTest.class, EdgesMovedTest.class, EdgesSweptTest.class, EdgesBestTest.class};
+        {EdgesToldTest.class, EdgesCostsTest.class, EdgesMovedTest.class, EdgesSweptTest.class, EdgesBestTest.class,
+        LawsTest.class};
 
     /** Titles, heads of methods and what stands between the parts: no sentences that could be broken. */
     private static final Pattern FRAME = Pattern.compile(

@@ -16,6 +16,7 @@ import java.util.regex.Pattern;
 public final class LanguageTest {
     private static final Check CHECK = new Check();
     private static final Path SOURCE = Path.of("src/main/java/SoftCosts.java");
+    private static final Path DOCUMENT = Path.of("../shared/DOC.md");
     private static final String[] FACE = {
         "write 1", "wipe 0", "fault 0", "lay 0", "name 2", "single 2", "table 2", "pair 3", "grow 3", "choose 2",
         "total 0", "project 4", "extend 4", "raise 2", "sweep 2", "settle 1", "bound 1", "undo 0", "best 1", "next 1",
@@ -23,6 +24,7 @@ public final class LanguageTest {
 
     public static void main(String[] args) throws IOException {
         face();
+        heads();
         nested();
         words();
         room();
@@ -53,6 +55,28 @@ public final class LanguageTest {
         CHECK.holds("one public constructor without arguments", made.length == 1
             && Modifier.isPublic(made[0].getModifiers()) && made[0].getParameterCount() == 0);
         CHECK.holds("public and final", SoftCosts.class.getModifiers() == (Modifier.PUBLIC | Modifier.FINAL));
+    }
+
+    /** Each line of the document's face stands in the class as it is there, but for what a method does. */
+    private static void heads() throws IOException {
+        if (!Files.isReadable(DOCUMENT)) {
+            System.out.println("no document here to compare the face with");
+            return;
+        }
+        String document = Files.readString(DOCUMENT);
+        int from = document.indexOf("```java") + "```java".length();
+        String code = Files.readString(SOURCE);
+        int heads = 0;
+        for (String line : document.substring(from, document.indexOf("```", from)).split("\n")) {
+            String head = line.trim();
+            if (head.startsWith("public")) {
+                heads++;
+                CHECK.holds("the class has: " + head,
+                    code.contains("\n    " + head) || code.contains("\n    " + head.replace(";", " {"))
+                    || code.contains("\n" + head));
+            }
+        }
+        CHECK.due("lines of the face", heads, FACE.length + 3);
     }
 
     private static void nested() {
