@@ -40,6 +40,10 @@ public final class RulesTest {
     private final Set<String> openNow = new TreeSet<>();
 
     public static void main(String[] args) throws IOException {
+        if (ToolProvider.getSystemJavaCompiler() == null) {
+            System.out.println("this java has no compiler to read the class with");
+            return;
+        }
         RulesTest rules = new RulesTest();
         rules.read(new File("src/main/java/SoftCosts.java"));
         CHECK.holds("the calls were found: " + rules.calls.size(), rules.calls.size() > 50);
